@@ -11,6 +11,7 @@ public final class BindingTest {
         lacks();
         lotsAndCopies();
         statesOfLots();
+        replayOfManyCorrections();
         outdated();
         waste();
         meanMakeready();
@@ -147,6 +148,26 @@ public final class BindingTest {
         Check.refuses(desk, IndexOutOfBoundsException.class, "stateByReplay(-1, 1)", () -> desk.stateByReplay(-1, 1));
     }
 
+    private static void replayOfManyCorrections() {
+        BinderyDesk desk = Check.withContents(12);
+        int job = Check.job(desk, 'w', 0, 3, 11, 5);
+        for (int i = 0; i < 99; i++) {
+            desk.correct(0);
+            desk.correct(11);
+            desk.correct(3);
+        }
+        Check.approveAll(desk, 12);
+        desk.print(job, 0, 2);
+        desk.print(job, 1, 2);
+        desk.bind(job, 1);
+        desk.correct(5);
+        int[] due = {99, 99, 99, 0};
+        for (int page = 1; page <= 4; page++) {
+            Check.due("stateIn(0, " + page + ")", desk.stateIn(0, page), due[page - 1]);
+            Check.due("stateByReplay(0, " + page + ")", desk.stateByReplay(0, page), due[page - 1]);
+        }
+    }
+
     private static void outdated() {
         BinderyDesk desk = Check.withContents(4);
         Check.approveAll(desk, 4);
@@ -171,6 +192,8 @@ public final class BindingTest {
         Check.due("outdated(1): the last lot is not", desk.outdated(1), 68);
         desk.correct(1);
         Check.due("outdated(1): the last lot is, too", desk.outdated(1), 75);
+        desk.correct(2);
+        Check.due("outdated(2), on the first page alone", desk.outdated(2), 67);
         Check.refuses(desk, IndexOutOfBoundsException.class, "outdated(4)", () -> desk.outdated(4));
         Check.refuses(desk, IndexOutOfBoundsException.class, "outdated(-1)", () -> desk.outdated(-1));
     }
@@ -180,7 +203,9 @@ public final class BindingTest {
         Check.refuses(desk, ArithmeticException.class, "wasteShare() of nothing", desk::wasteShare);
         Check.approveAll(desk, 2);
         int job = Check.job(desk, 'w', 0, 0, 1, 1);
-        desk.print(job, 0, 5);
+        desk.print(job, 0, 1);
+        Check.due("wasteShare() of one sheet", desk.wasteShare(), 0.0f);
+        desk.print(job, 0, 4);
         Check.due("waste()", desk.waste(), 0L);
         Check.due("wasteShare()", desk.wasteShare(), 0.0f);
         desk.print(job, 1, 4);

@@ -6,6 +6,9 @@ public final class ContentsTest {
         approve();
         correct();
         correctVoidsSheets();
+        correctVoidsByEveryPlace('s', 3, 0, 1, 2);
+        correctVoidsByEveryPlace('p', 3, 0, 1, 2);
+        correctVoidsByEveryPlace('w', 0, 1);
         state();
         Check.finish("ContentsTest");
     }
@@ -80,6 +83,26 @@ public final class ContentsTest {
         Check.due("correct(2) again", desk.correct(2), 0);
         Check.due("correct(3)", desk.correct(3), 0);
         Check.due("waste()", desk.waste(), 150L);
+    }
+
+    /** One sheet shows these contents in its places, in this order, and the other sheet shows 4 alone. */
+    private static void correctVoidsByEveryPlace(char binding, int... places) {
+        for (int place = 0; place < places.length; place++) {
+            BinderyDesk desk = Check.withContents(5);
+            Check.approveAll(desk, 5);
+            int job = desk.addJob(binding);
+            int sheet = binding == 's' ? 1 : 0;
+            int[] shown = binding == 's' ? new int[] {4, 4, 0, 1, 2, 3, 4, 4}
+                    : binding == 'p' ? new int[] {0, 1, 2, 3, 4, 4, 4, 4} : new int[] {0, 1, 4, 4};
+            for (int content : shown) {
+                desk.addPage(job, content);
+            }
+            desk.print(job, sheet, 30);
+            desk.print(job, 1 - sheet, 500);
+            Check.due(binding + ": correct what place " + place + " shows", desk.correct(places[place]), 30);
+            Check.due(binding + ": stock of this sheet", desk.stock(job, sheet), 0);
+            Check.due(binding + ": stock of the other sheet", desk.stock(job, 1 - sheet), 500);
+        }
     }
 
     private static void state() {

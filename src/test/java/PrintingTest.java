@@ -7,6 +7,7 @@ public final class PrintingTest {
     public static void main(String[] args) {
         print();
         printRefuses();
+        printAsksOnlyItsOwnProofs();
         printRefusesInOrder();
         stockLimit();
         makeready();
@@ -15,6 +16,9 @@ public final class PrintingTest {
         stock();
         plates();
         platesNeeded();
+        platesNeededOnTheLastSheet();
+        platesOfAllSides(0);
+        platesOfAllSides(99);
         Check.finish("PrintingTest");
     }
 
@@ -66,6 +70,21 @@ public final class PrintingTest {
         }
         desk.addPage(job, 0);
         Check.refuses(desk, IllegalStateException.class, "print, not complete", () -> desk.print(job, 0, 1));
+    }
+
+    private static void printAsksOnlyItsOwnProofs() {
+        for (char binding : new char[] {'s', 'p', 'w'}) {
+            BinderyDesk desk = Check.withContents(3);
+            desk.approve(1);
+            int job = desk.addJob(binding);
+            int[] shown = binding == 's' ? new int[] {0, 0, 1, 1, 1, 1, 2, 2}
+                    : binding == 'p' ? new int[] {0, 0, 0, 0, 1, 1, 1, 1, 2, 2, 2, 2} : new int[] {0, 0, 1, 1, 2, 2};
+            for (int content : shown) {
+                desk.addPage(job, content);
+            }
+            Check.due(binding + ": only the proofs of sheet 1 are approved", desk.print(job, 1, 1), 55);
+            Check.refuses(desk, UnsupportedOperationException.class, "print sheet 0", () -> desk.print(job, 0, 1));
+        }
     }
 
     private static void printRefusesInOrder() {
@@ -225,6 +244,8 @@ public final class PrintingTest {
         int wire = Check.job(desk, 'w', 0, 1, 1, 0, 0, 0, 2, 3);
         int perfect = Check.job(desk, 'p', 1, 2, 2, 0, 2, 1, 0, 2);
         int empty = desk.addJob('s');
+        int long16 = Check.job(desk, 'w', 0, 1, 2, 3, 0, 1, 2, 3, 3, 2, 1, 0, 3, 2, 1, 0);
+        Check.due("of 16 sides", desk.platesNeeded(long16), 4);
         Check.due("each one counted once, not approved", desk.platesNeeded(wire), 4);
         Check.due("(0, 1), (2, 2), (2, 2), (1, 0)", desk.platesNeeded(perfect), 3);
         Check.approveAll(desk, 4);
@@ -239,7 +260,49 @@ public final class PrintingTest {
         desk.print(perfect, 1, 1);
         Check.due("none lacks", desk.platesNeeded(perfect), 0);
         Check.refuses(desk, IllegalStateException.class, "needed, not complete", () -> desk.platesNeeded(empty));
-        Check.refuses(desk, IndexOutOfBoundsException.class, "needed job 3", () -> desk.platesNeeded(3));
+        Check.refuses(desk, IndexOutOfBoundsException.class, "needed job 4", () -> desk.platesNeeded(4));
         Check.refuses(desk, IndexOutOfBoundsException.class, "needed job -1", () -> desk.platesNeeded(-1));
+    }
+
+    private static void platesNeededOnTheLastSheet() {
+        BinderyDesk desk = Check.withContents(8);
+        int job = Check.job(desk, 'p', 1, 1, 1, 0, 2, 2, 2, 0, 3, 3, 3, 0, 5, 4, 5, 4);
+        Check.due("front and back alike on the last sheet", desk.platesNeeded(job), 7);
+    }
+
+    /** Any two sides with other contents have other plates; odd contents are in this state, even ones in 0. */
+    private static void platesOfAllSides(int oddState) {
+        for (int one = 0; one < 156; one++) {
+            for (int two = 0; two < 156; two++) {
+                if (one != two) {
+                    platesOfTwoSides(oddState, one / 13, one % 13, two / 13, two % 13);
+                }
+            }
+        }
+    }
+
+    /** A second content of 12 means that the side has only the first. */
+    private static void platesOfTwoSides(int oddState, int a, int b, int c, int d) {
+        BinderyDesk desk = Check.withContents(12);
+        int first = jobWithSide(desk, a, b);
+        int second = jobWithSide(desk, c, d);
+        for (int content = 1; content < 12; content += 2) {
+            boolean shown = content == a || content == b || content == c || content == d;
+            for (int i = 0; shown && i < oddState; i++) {
+                desk.correct(content);
+            }
+        }
+        Check.approveAll(desk, 12);
+        desk.print(first, 0, 1);
+        String sides = "(" + a + ", " + b + ") and (" + c + ", " + d + ")";
+        Check.due("plates needed of " + sides, desk.platesNeeded(second), 1);
+        Check.due("makeready of " + sides, desk.makeready(second, 0), (b == 12) == (d == 12) ? 40 : 55);
+        desk.print(second, 0, 1);
+        Check.due("plates of " + sides, desk.plates(), 2);
+        Check.due("plates needed behind " + sides, desk.platesNeeded(first), 0);
+    }
+
+    private static int jobWithSide(BinderyDesk desk, int first, int second) {
+        return second == 12 ? Check.job(desk, 'w', first, first) : Check.job(desk, 'p', second, first, second, first);
     }
 }
