@@ -4,15 +4,43 @@ final class Check {
         Object answer();
     }
 
+    /** Of one sentence, more wrong answers than these are counted, but not told. */
+    private static final int TOLD = 5;
+
     private static int wrong = 0;
+    private static int told = 0;
+    private static String sentence = "";
 
     private Check() {
+    }
+
+    /** What is looked at from here on is a test of this sentence. */
+    static void under(String name) {
+        sentence = name.isEmpty() ? "" : "[" + name + "] ";
+        told = 0;
     }
 
     static void due(String call, Object got, Object want) {
         if (!got.equals(want)) {
             wrong++;
-            System.out.println(call + " answered " + got + ", due is " + want);
+            told++;
+            if (!sentence.isEmpty() && told > TOLD) {
+                return;
+            }
+            System.out.println(sentence + call + " answered " + got + ", due is " + want);
+        }
+    }
+
+    /** Two long texts are the same; if not, their first lines that differ are told. */
+    static void dueText(String what, String got, String want) {
+        String[] gotLines = got.split("\n");
+        String[] wantLines = want.split("\n");
+        due("number of lines, " + what, gotLines.length, wantLines.length);
+        for (int i = 0; i < gotLines.length && i < wantLines.length; i++) {
+            if (!gotLines[i].equals(wantLines[i])) {
+                due("line " + i + ", " + what, gotLines[i], wantLines[i]);
+                return;
+            }
         }
     }
 
@@ -29,7 +57,7 @@ final class Check {
     static void refuses(BinderyDesk desk, Class<? extends RuntimeException> due, String what, Call call) {
         String before = look(desk);
         due(what, answerOf(call), "throws." + due.getSimpleName());
-        due("all looks behind " + what, look(desk), before);
+        dueText("all looks behind " + what, look(desk), before);
     }
 
     static void finish(String test) {

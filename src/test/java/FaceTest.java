@@ -6,6 +6,8 @@ import java.util.ArrayList;
 import java.util.Arrays;
 import java.util.Collections;
 import java.util.List;
+import java.util.regex.Matcher;
+import java.util.regex.Pattern;
 
 /** The face has the document's methods with their exceptions, in its words, and nothing else. */
 public final class FaceTest {
@@ -46,8 +48,11 @@ public final class FaceTest {
         "double meanMakeready()" + ARITHMETIC,
     };
 
+    private static final Pattern CALL = Pattern.compile("    public (\\w+) (\\w+)\\((.*)\\)(?: throws (.*))?;");
+
     public static void main(String[] args) {
         Class<?> desk = BinderyDesk.class;
+        document();
         Check.due("the class is public and final", desk.getModifiers(), Modifier.PUBLIC | Modifier.FINAL);
         methods(desk);
         for (Field field : desk.getDeclaredFields()) {
@@ -57,6 +62,20 @@ public final class FaceTest {
         Check.due("constructors", constructors.length, 1);
         Check.due("the constructor", constructors[0].toString(), "public BinderyDesk()");
         Check.finish("FaceTest");
+    }
+
+    /** The list above has the document's calls, in its order. */
+    private static void document() {
+        List<String> told = new ArrayList<>();
+        for (String line : Sentences.lines(Sentences.DOCUMENT)) {
+            Matcher call = CALL.matcher(line);
+            if (call.matches()) {
+                String parameters = call.group(3).replaceAll(" \\w+(,|$)", "$1").replace(" ", "");
+                String exceptions = call.group(4) == null ? "" : " " + call.group(4).replace(",", "");
+                told.add(call.group(1) + " " + call.group(2) + "(" + parameters + ")" + exceptions);
+            }
+        }
+        Check.due("the document's calls", Arrays.asList(FACE), told);
     }
 
     private static void methods(Class<?> desk) {
