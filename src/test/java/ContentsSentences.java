@@ -101,7 +101,13 @@ final class ContentsSentences {
         BinderyDesk eleven = Check.withContents(11);
         Check.due("the 12th addContent()", eleven.addContent(), 11);
         Twins.refuse(Edges.STATE, "the 13th addContent()", desk -> Shops.withContents(desk, 12), BinderyDesk::addContent);
-        Twins.refuse(Edges.STATE, "the 13th addContent()", Shops::statesByNumber, BinderyDesk::addContent);
+        Twins.refuse(Edges.STATE, "the 13th addContent()", desk -> Shops.withContents(desk, 12, true), BinderyDesk::addContent);
+        Twins.Beginning corrected = desk -> {
+            Shops.statesByNumber(desk);
+            desk.correct(0);
+            desk.correct(11);
+        };
+        Twins.refuse(Edges.STATE, "the 13th addContent()", corrected, BinderyDesk::addContent);
     }
 
     // ---- approve

@@ -40,9 +40,11 @@ final class Edges {
 
     static void noSuchContent(OfNumber call) {
         for (int there : new int[] {0, 1, 2, 11, 12}) {
-            Twins.Beginning beginning = desk -> Shops.withContents(desk, there);
-            refuseAll(INDEX, there + " contents", beginning, call, outside(there));
-            allowAll(INDEX, there + " contents", beginning, call, 0, there - 1);
+            for (boolean fresh : new boolean[] {false, true}) {
+                Twins.Beginning beginning = desk -> Shops.withContents(desk, there, fresh);
+                refuseAll(INDEX, there + " contents", beginning, call, outside(there));
+                allowAll(INDEX, there + " contents", beginning, call, 0, there - 1);
+            }
         }
     }
 
@@ -77,9 +79,11 @@ final class Edges {
             for (int count = places(binding); count <= 16; count += places(binding)) {
                 int pages = count;
                 int sheets = pages / places(binding);
-                Twins.Beginning beginning = desk -> Shops.withPages(desk, binding, pages);
-                refuseAll(NONE, binding + " with " + sheets + " sheets", beginning, call, outside(sheets));
-                allowAll(NONE, binding + " with " + sheets + " sheets", beginning, call, 0, sheets - 1);
+                Twins.Beginning printed = desk -> Shops.withPages(desk, binding, pages);
+                Twins.Beginning fresh = desk -> Shops.withPagesAlone(desk, binding, pages);
+                refuseAll(NONE, binding + " with " + sheets + " sheets", printed, call, outside(sheets));
+                refuseAll(NONE, binding + " with " + sheets + " sheets, not printed", fresh, call, outside(sheets));
+                allowAll(NONE, binding + " with " + sheets + " sheets", printed, call, 0, sheets - 1);
             }
         }
     }
@@ -90,11 +94,13 @@ final class Edges {
             Shops.withPages(desk, 'w', 2);
             desk.print(0, 0, 500);
         };
-        // 65537 would be 1 as a short, and 2147483649 less 2^32 is below 0.
-        refuseAll(ARGUMENT, "the number", beginning, call, new int[] {
+        // As a short, 65537 would be 1 and 66036 would be 500.
+        int[] outside = {
             501, 0, -1, 502, -500, -499, 512, 756, 65536, 65537, 66036, -65535, 536870913, 1073741825,
             Integer.MAX_VALUE, Integer.MIN_VALUE, Integer.MIN_VALUE + 1
-        });
+        };
+        refuseAll(ARGUMENT, "the number", beginning, call, outside);
+        refuseAll(ARGUMENT, "the number, not printed", desk -> Shops.withPagesAlone(desk, 'p', 8), call, outside);
         allowAll(ARGUMENT, "the number", beginning, call, 1, 2);
         allowAll(ARGUMENT, "the number", beginning, call, 255, 257);
         allowAll(ARGUMENT, "the number", beginning, call, 499, 500);

@@ -1,4 +1,6 @@
+import java.util.HashSet;
 import java.util.Random;
+import java.util.Set;
 
 /** The sentences of promises 12 to 18: print, makeready, leastMakeready, leastByTrying, stock, plates, platesNeeded. */
 final class PrintingSentences {
@@ -89,6 +91,8 @@ final class PrintingSentences {
                 PrintingSentences::neededAsContentsAreNow);
         sentences.holds("Returns the number of plates, each one counted once.", PrintingSentences::neededOnce);
         sentences.holds("Returns the number of plates, each one counted once.", PrintingSentences::neededOfAllSides);
+        sentences.holds("Returns the number of plates, each one counted once.", PrintingSentences::neededWithTwoAlike);
+        sentences.holds("Returns the number of plates, each one counted once.", PrintingSentences::neededOfManyJobs);
         sentences.holds(NO_JOB, () -> Edges.noSuchJob(BinderyDesk::platesNeeded));
         sentences.holds(NOT_COMPLETE, () -> Edges.notComplete(desk -> desk.platesNeeded(0)));
     }
@@ -221,7 +225,11 @@ final class PrintingSentences {
             Twins.Beginning beginning = desk -> almostFull(desk, 9999 - left);
             Twins.refuse(Edges.REFUSED, "print of one too many behind " + (9999 - left), beginning,
                     desk -> desk.print(0, 1, left + 1));
-            Twins.refuse(Edges.REFUSED, "print of 500 behind " + (9999 - left), beginning, desk -> desk.print(0, 1, 500));
+            Twins.Beginning other = desk -> {
+                almostFull(desk, 9999 - left);
+                desk.print(Check.job(desk, 'w', 1, 1), 0, 1);
+            };
+            Twins.refuse(Edges.REFUSED, "print of 500 behind " + (9999 - left), other, desk -> desk.print(0, 1, 500));
             BinderyDesk desk = Twins.begun(beginning);
             if (left > 0) {
                 Check.due("print of the last ones", desk.print(0, 1, left), 0);
@@ -241,8 +249,7 @@ final class PrintingSentences {
 
     /** Job 0 has two sheets, of which sheet 1 has as many in stock. */
     private static void almostFull(BinderyDesk desk, int stock) {
-        desk.addContent();
-        desk.approve(0);
+        Shops.withFour(desk);
         int job = Shops.plainJob(desk, 'w', 4);
         for (int left = stock; left > 0; left -= 500) {
             desk.print(job, 1, Math.min(left, 500));
@@ -559,5 +566,56 @@ final class PrintingSentences {
         desk.approve(1);
         desk.print(wire, 0, 1);
         Check.due("10 sides are left", desk.platesNeeded(wire), 10);
+    }
+
+    /** All sides differ but two, which may be any. */
+    private static void neededWithTwoAlike() {
+        for (char binding : Edges.BINDINGS) {
+            int[][] table = JobsSentences.table(binding, binding == 'w' ? 12 : 16);
+            int sides = 2 * table.length;
+            for (int one = 0; one < sides; one++) {
+                for (int two = one + 1; two < sides; two++) {
+                    BinderyDesk desk = Check.withContents(12);
+                    int job = Check.job(desk, binding, twoAlike(table, one, two));
+                    Check.due(binding + ", sides " + one + " and " + two, desk.platesNeeded(job), sides - 1);
+                }
+            }
+        }
+    }
+
+    /** What the pages show if each side shows its own number alone, but the second of the two shows the first one's. */
+    private static int[] twoAlike(int[][] table, int one, int two) {
+        int places = table[0].length;
+        int[] shown = new int[table.length * places];
+        for (int sheet = 0; sheet < table.length; sheet++) {
+            for (int place = 0; place < places; place++) {
+                int side = 2 * sheet + place * 2 / places;
+                shown[table[sheet][place] - 1] = side == two ? one : side;
+            }
+        }
+        return shown;
+    }
+
+    private static void neededOfManyJobs() {
+        Random random = new Random(18);
+        for (int run = 0; run < 300; run++) {
+            char binding = Edges.BINDINGS[run % 3];
+            int contents = 1 + random.nextInt(12);
+            int[] shown = random.ints(16, 0, contents).toArray();
+            int[] before = random.ints(Edges.places(binding), 0, contents).toArray();
+            BinderyDesk desk = Check.withContents(contents);
+            Check.approveAll(desk, contents);
+            int job = Check.job(desk, binding, shown);
+            Set<Integer> needed = new HashSet<>();
+            for (int[] sheet : sides(binding, shown)) {
+                needed.add(sheet[0]);
+                needed.add(sheet[1]);
+            }
+            Check.due("run " + run + ", at first", desk.platesNeeded(job), needed.size());
+            desk.print(Check.job(desk, binding, before), 0, 1);
+            needed.remove(sides(binding, before)[0][0]);
+            needed.remove(sides(binding, before)[0][1]);
+            Check.due("run " + run, desk.platesNeeded(job), needed.size());
+        }
     }
 }

@@ -3,7 +3,19 @@ final class Shops {
     private Shops() {
     }
 
-    /** As many contents, of which the odd ones are approved, and a wire job with the first one, if any. */
+    /** As many contents and a wire job; if fresh, without any work done. */
+    static void withContents(BinderyDesk desk, int count, boolean fresh) {
+        if (fresh) {
+            for (int content = 0; content < count; content++) {
+                desk.addContent();
+            }
+            desk.addJob('w');
+        } else {
+            withContents(desk, count);
+        }
+    }
+
+    /** As many contents, of which the odd ones are approved, and a wire job with the first and the last one, if any. */
     static void withContents(BinderyDesk desk, int count) {
         for (int content = 0; content < count; content++) {
             desk.addContent();
@@ -52,6 +64,15 @@ final class Shops {
             if (page % Edges.places(binding) == 0) {
                 printEach(desk, job, 4);
             }
+        }
+    }
+
+    /** Job 0 has as many pages, all approved, and nothing was printed. */
+    static void withPagesAlone(BinderyDesk desk, char binding, int pages) {
+        withFour(desk);
+        int job = desk.addJob(binding);
+        for (int page = 1; page <= pages; page++) {
+            desk.addPage(job, page % 4);
         }
     }
 

@@ -49,6 +49,8 @@ final class TermsSentences {
                 + "the states are the same; a side with one content never has the same plate as one with two.";
         sentences.holds(same, TermsSentences::samePlateOfAllJobs);
         sentences.holds(same, TermsSentences::oneContentOrTwo);
+        sentences.holds(same, () -> PlatePairs.dueOfAll(0));
+        sentences.holds(same, () -> PlatePairs.dueOfAll(99));
         sentences.holds("A plate is made when a sheet is printed that needs it, and it was not made before.",
                 TermsSentences::platesAreMadeByPrints);
     }

@@ -8,6 +8,9 @@ final class Twins {
         Object of(BinderyDesk desk);
     }
 
+    private static Beginning remembered = null;
+    private static String course = "";
+
     private Twins() {
     }
 
@@ -23,7 +26,7 @@ final class Twins {
         for (int again = 0; again < 3; again++) {
             Check.due(what, Check.answerOf(() -> call.of(asked)), "throws." + due.getSimpleName());
         }
-        goOnAlike(what, asked, begun(beginning));
+        goOnAlike(what, asked, beginning);
     }
 
     /** The call answers the same as often as it is made, and changes nothing, seen now or later. */
@@ -33,11 +36,20 @@ final class Twins {
         for (int again = 0; again < 3; again++) {
             Check.due(what + " once more", Check.answerOf(() -> call.of(asked)), first);
         }
-        goOnAlike(what, asked, begun(beginning));
+        goOnAlike(what, asked, beginning);
     }
 
-    private static void goOnAlike(String what, BinderyDesk asked, BinderyDesk twin) {
-        Check.dueText("behind " + what, goOn(asked), goOn(twin));
+    private static void goOnAlike(String what, BinderyDesk asked, Beginning beginning) {
+        Check.dueText("behind " + what, goOn(asked), courseOf(beginning));
+    }
+
+    /** How the twin goes on; it is the same for all that is asked behind one beginning, one after the other. */
+    private static String courseOf(Beginning beginning) {
+        if (beginning != remembered) {
+            remembered = beginning;
+            course = goOn(begun(beginning));
+        }
+        return course;
     }
 
     /** All that a shop answers now, and while work goes on that shows what no look tells. */
@@ -52,8 +64,22 @@ final class Twins {
         approveAll(all, desk);
         all.append(Check.look(desk));
         growAll(all, desk);
+        approveAll(all, desk);
+        printAll(all, desk);
         all.append(Check.look(desk));
         return all.toString();
+    }
+
+    private static int contents(BinderyDesk desk) {
+        int count = 0;
+        while (count < 12 && isThere(desk, count)) {
+            count++;
+        }
+        return count;
+    }
+
+    private static boolean isThere(BinderyDesk desk, int content) {
+        return !Check.answerOf(() -> desk.state(content)).startsWith("throws.");
     }
 
     private static void printAll(StringBuilder all, BinderyDesk desk) {
@@ -74,14 +100,14 @@ final class Twins {
     }
 
     private static void approveAll(StringBuilder all, BinderyDesk desk) {
-        for (int content = 0; content < 12; content++) {
+        for (int content = 0; content < contents(desk); content++) {
             int c = content;
             add(all, "approve " + c, () -> desk.approve(c));
         }
     }
 
     private static void correctAll(StringBuilder all, BinderyDesk desk) {
-        for (int content = 0; content < 12; content++) {
+        for (int content = 0; content < contents(desk); content++) {
             int c = content;
             add(all, "correct " + c, () -> desk.correct(c));
         }
@@ -90,6 +116,7 @@ final class Twins {
     private static void growAll(StringBuilder all, BinderyDesk desk) {
         add(all, "addContent", desk::addContent);
         add(all, "addJob", () -> desk.addJob('w'));
+        all.append(Check.look(desk));
         for (int job = 0; job < 4; job++) {
             int j = job;
             add(all, "addPage " + j, () -> desk.addPage(j, 0));
