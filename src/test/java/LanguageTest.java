@@ -3,6 +3,8 @@ import java.lang.reflect.Method;
 import java.lang.reflect.Modifier;
 import java.util.ArrayList;
 import java.util.List;
+import java.util.Set;
+import java.util.TreeSet;
 import java.util.regex.Matcher;
 import java.util.regex.Pattern;
 
@@ -21,8 +23,21 @@ public final class LanguageTest {
             "UnsupportedOperationException", "NoSuchElementException", "RuntimeException");
     private static final List<Class<?>> CONSTANTS = List.of(int.class, long.class, boolean.class, char.class, String.class);
 
+    private static final Pattern INDEXED = Pattern.compile("(?<!new )\\b(\\w+\\[[^\\]]+\\])");
+    /** Where an index stands in the code: each one is tested by its loop's bound or right ahead of it. */
+    private static final Set<String> TESTED_INDEXES = Set.of(
+            "row[index]", "jobList[jobCount]", "jobList[job]", "lotList[lotCount]", "lotList[lot]", "corrected[i]", "latest[i]");
+    private static final Pattern DIVIDED = Pattern.compile("[/%]=?\\s*((?:\\(\\w+\\) )?\\w+)");
+    /** By what the code divides: constants, and two numbers that are tested right ahead. */
+    private static final Set<String> DIVISORS = Set.of("2", "4", "STATE_PAIRS", "(float) printed", "(double) printCalls");
+    private static final int LONGEST_METHOD = 60;
+
     public static void main(String[] args) {
         words(Source.code());
+        signs();
+        lengths();
+        dueJust("an index", INDEXED, TESTED_INDEXES, Source.code());
+        dueJust("a divisor", DIVIDED, DIVISORS, Source.code());
         imports(Source.code());
         exceptions(Source.code());
         classes();
@@ -34,6 +49,38 @@ public final class LanguageTest {
             Matcher found = Pattern.compile(word).matcher(code);
             Check.due("the code has " + word, found.find(), false);
         }
+    }
+
+    private static void signs() {
+        for (String line : Sentences.lines(Source.FILE)) {
+            boolean plain = line.chars().allMatch(sign -> sign == '\t' || sign >= ' ' && sign < 127);
+            Check.due("has plain signs: " + line, plain, true);
+        }
+    }
+
+    /** Methods of the class begin at four spaces, those of the classes inside at eight; they end where they begin. */
+    private static void lengths() {
+        String indent = "";
+        int length = 0;
+        for (String line : Sentences.lines(Source.FILE)) {
+            length++;
+            if (line.matches(" {4}(?: {4})?[A-Za-z].*\\(.*[^;]") && !line.matches(".*\\b(if|for|while|switch|return)\\b.*")) {
+                indent = line.substring(0, line.length() - line.trim().length());
+                length = 1;
+            } else if (line.equals(indent + "}")) {
+                Check.due("a method has " + length + " lines", length <= LONGEST_METHOD, true);
+            }
+        }
+    }
+
+    /** The pattern finds just what is known to be safe. */
+    private static void dueJust(String what, Pattern pattern, Set<String> known, String code) {
+        Matcher each = pattern.matcher(code);
+        Set<String> found = new TreeSet<>();
+        while (each.find()) {
+            found.add(each.group(1));
+        }
+        Check.due(what + " that is known to be tested", found, new TreeSet<>(known));
     }
 
     private static void imports(String code) {

@@ -7,7 +7,7 @@ import java.util.regex.Pattern;
 
 /** The text of the class. */
 final class Source {
-    private static final Path FILE = Path.of("src/main/java/BinderyDesk.java");
+    static final Path FILE = Path.of("src/main/java/BinderyDesk.java");
     private static final Pattern CALL = Pattern.compile("^    public \\w+ (\\w+)\\(.*");
 
     private Source() {
